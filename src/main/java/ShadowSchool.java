@@ -510,7 +510,11 @@ public final class ShadowSchool {
     // ---- rows
 
     public int prove(int n) {
-        return isWithin(n, 0, MOST_ACTS) ? plans.makeRows(school, n) : BAD;
+        if (!isWithin(n, 0, MOST_ACTS)) {
+            return BAD;
+        }
+        plans.walkAll(school, n, 0);
+        return plans.makeRows(school);
     }
 
     public int row(int k, int what) {
@@ -983,9 +987,11 @@ public final class ShadowSchool {
 
     /** THE RULES; conditions as steps on a stack of bits, ahead of which what they join stands. */
     private static final class Rules {
-        static final int LESS = 0, SAME = 1, MORE = 2, AND = 3, OR = 4, NOT = 5;
+        /** The first three are the signs, as their bytes come and as compare() answers, and 1. */
+        static final int LESS = 0, MORE = 2, AND = 3, OR = 4, NOT = 5;
         /** A step comes from 2 bytes or more. */
         static final int MOST_STEPS = MOST_BYTES / 2;
+        static final int FACTS = 5;
 
         int count;
         int size;
@@ -994,10 +1000,12 @@ public final class ShadowSchool {
         /** Behind which step each RULE's condition ends; none: it always holds. */
         final int[] ends = new int[MOST_RULES];
         final int[] steps = new int[MOST_STEPS];
-        /** What a comparison compares: a number, or -1 less which of the FACTS. */
+        /** What a comparison compares, told by its place among the values. */
         final int[] lefts = new int[MOST_STEPS];
         final int[] rights = new int[MOST_STEPS];
-        final int[] facts = new int[5];
+        /** The FACTS, then the NUMBERS of the text; behind each of these stand 1 byte or more that aren't its own. */
+        final int[] values = new int[FACTS + MOST_BYTES / 2];
+        int valueCount = FACTS;
 
         void copyFrom(Rules other) {
             count = other.count;
@@ -1008,11 +1016,24 @@ public final class ShadowSchool {
             copyRow(other.steps, steps);
             copyRow(other.lefts, lefts);
             copyRow(other.rights, rights);
+            valueCount = other.valueCount;
+            copyRow(other.values, values);
         }
 
         void clear() {
             count = 0;
             size = 0;
+            valueCount = FACTS;
+        }
+
+        /** Where the NUMBER stands among the values. */
+        int addValue(int n) {
+            if (valueCount >= values.length) {
+                return 0;
+            }
+            int place = valueCount++;
+            values[place] = n;
+            return place;
         }
 
         void addStep(int step, int left, int right) {
@@ -1034,11 +1055,11 @@ public final class ShadowSchool {
         }
 
         void tell(int hour, int learnt, int quick, int tall, int number) {
-            facts[0] = hour;
-            facts[1] = learnt;
-            facts[2] = quick;
-            facts[3] = tall;
-            facts[4] = number;
+            values[0] = hour;
+            values[1] = learnt;
+            values[2] = quick;
+            values[3] = tall;
+            values[4] = number;
         }
 
         /** What the first RULE says that is for a KIND and holds by the FACTS. */
@@ -1063,24 +1084,12 @@ public final class ShadowSchool {
                     case AND: bits = bits >> 2 << 1 | under & top; break;
                     case OR: bits = bits >> 2 << 1 | under | top; break;
                     case NOT: bits ^= 1; break;
-                    default: bits = bits << 1 | (compares(s) ? 1 : 0);
+                    default:
+                        int sign = Integer.compare(values[lefts[s]], values[rights[s]]) + 1;
+                        bits = bits << 1 | (sign == steps[s] ? 1 : 0);
                 }
             }
             return (bits & 1) == 1;
-        }
-
-        private boolean compares(int s) {
-            int left = valueOf(lefts[s]);
-            int right = valueOf(rights[s]);
-            switch (steps[s]) {
-                case LESS: return left < right;
-                case SAME: return left == right;
-                default: return left > right;
-            }
-        }
-
-        private int valueOf(int told) {
-            return told >= 0 ? told : facts[-1 - told];
         }
     }
 
@@ -1091,7 +1100,7 @@ public final class ShadowSchool {
             "shadow joined gifted coloured slow borrowed last easy play if or and not hour learnt quick tall number ";
         static final int LAST_KIND = 5, FIRST_DEED = 6, IF = 9, OR = 10, AND = 11, NOT = 12;
         static final int FIRST_FACT = 13, LAST_FACT = 17;
-        /** Signs are tokens by their bytes, which lie between the NAMES and this; NUMBERS are this and what they are. */
+        /** Signs are tokens by their bytes, which lie between the NAMES' and this; NUMBERS are this and their own. */
         static final int NUMBER = 1000, MOST_DIGITS = 4;
         static final int STRANGE = -1, END = -2;
         static final int LETTER = 0, DIGIT = 1, OTHER = 2;
@@ -1283,7 +1292,7 @@ public final class ShadowSchool {
             if (!isValue(tokens[at])) {
                 return false;
             }
-            int left = valueOf(tokens[at]);
+            int left = placeOfValue(tokens[at]);
             goOn();
             int step = tokens[at] - '<';
             if (!isWithin(step, Rules.LESS, Rules.MORE)) {
@@ -1293,7 +1302,7 @@ public final class ShadowSchool {
             if (!isValue(tokens[at])) {
                 return false;
             }
-            draft.addStep(step, left, valueOf(tokens[at]));
+            draft.addStep(step, left, placeOfValue(tokens[at]));
             goOn();
             return true;
         }
@@ -1310,8 +1319,8 @@ public final class ShadowSchool {
             return token >= NUMBER || isWithin(token, FIRST_FACT, LAST_FACT);
         }
 
-        private int valueOf(int token) {
-            return token >= NUMBER ? token - NUMBER : -1 - (token - FIRST_FACT);
+        private int placeOfValue(int token) {
+            return token >= NUMBER ? draft.addValue(token - NUMBER) : token - FIRST_FACT;
         }
 
         private void goOn() {
@@ -1406,8 +1415,8 @@ public final class ShadowSchool {
             return value;
         }
 
-        int makeRows(School s, int n) {
-            walkAll(s, n, 0);
+        /** ROWS of the FIRST that the latest walk found. */
+        int makeRows(School s) {
             Progress g = behind[0];
             rowCount = length;
             for (int k = 0; k < rowCount; k++) {
