@@ -1513,7 +1513,7 @@ public final class ShadowSchool {
             }
         }
 
-        /** The number of the SHADOW that a SHELF holds, if there is still such a one; -1: it holds none. */
+        /** The number of the SHADOW that a SHELF holds (by now there may be no such one); -1: it holds none. */
         int shadowOn(int shelf) {
             return holds[shelf] == SHADOW ? numbers[shelf] : -1;
         }

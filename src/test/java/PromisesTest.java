@@ -542,6 +542,19 @@ public final class PromisesTest {
         read(x, "slow easy;");
         due("easy: 16 and 17", x.shadowOf(1, 5), 0);
         due("easy: of the other as ever", x.shadowOf(0, 5), 0);
+        // Texts read one after another leave nothing behind, with a fault or without.
+        x = new ShadowSchool();
+        x.shadow(1, 1, 1);
+        x.lesson(1, -1, 0, 15, 1);
+        for (int k = 0; k < 9; k++) {
+            due("a long one", read(x, "joined if " + "1=2or".repeat(35) + "1=2play;"), 1);
+            due("it doesn't hold", x.shadowOf(0, 5), 0);
+            due("a long one that ends", read(x, "joined if " + "1=1or".repeat(35) + "1=1play"), -292);
+        }
+        due("a short one", read(x, "joined if 3=3 play;"), 1);
+        due("it holds", x.shadowOf(0, 5), 8);
+        due("another", read(x, "joined if 3=4 play;"), 1);
+        due("it doesn't hold either", x.shadowOf(0, 5), 0);
         // By last there must be a place, too.
         x = new ShadowSchool();
         x.shadow(1, 1, 1);
@@ -736,6 +749,11 @@ public final class PromisesTest {
         read(x, "shadow if quick > 8 play;");
         due("9 plays", x.quickFor(0), 1);
         due("in the last hour", toTheLast().quickFor(0), 2);
+        x = new ShadowSchool();
+        x.dusk(1);
+        x.shadow(1, 5, 1);
+        x.lesson(10, -1, 0, 0, 1);
+        due("10 would do", x.quickFor(0), 1);
     }
 
     private static void letGoBy() {
@@ -764,7 +782,12 @@ public final class PromisesTest {
         due("9", x.letGoBy(0), 9);
         x.change(0, 1, 1);
         x.lesson(1, -1, 1, 1, 1);
-        due("10 wouldn't do", x.letGoBy(0), NONE);
+        due("behind dusk", x.letGoBy(0), NONE);
+        x = new ShadowSchool();
+        x.dusk(1);
+        x.shadow(1, 5, 1);
+        x.lesson(10, -1, 0, 0, 1);
+        due("10 would do", x.letGoBy(0), NONE);
     }
 
     private static void roomFor() {
@@ -1108,8 +1131,10 @@ public final class PromisesTest {
         due("over", x.game(4), 0);
         for (int quick = 1; quick <= 9; quick++) {
             x = narrow();
+            x.remake(0, 2);
+            x.remake(1, 5);
             x.change(1, 1, quick);
-            x.lesson(3, -1, 1, 2, 1);
+            x.lesson(3, -1, 1, 3, 1);
             for (int n = 1; n <= 4; n++) {
                 x.sheet(0, 0, 4);
                 int want = valueBehind(x, 0, n);
@@ -1824,7 +1849,7 @@ public final class PromisesTest {
         x.quarrel(1, 2, 1);
         x.quarrel(0, 2, 1);
         x.forget();
-        x.report(1, 1, 5, 5);
+        x.report(1, 1, 0, 999);
         x.report(1, 1, 5, 5);
         x.seed(3);
         x.dusk(16);
