@@ -306,12 +306,7 @@ public final class ShadowSchool {
         if (refusal != 0) {
             return refusal;
         }
-        for (int k = 0; k < school.shadows; k++) {
-            if (!host.hasItem(sheet, i + k)) {
-                return OUTSIDE;
-            }
-        }
-        return countGifts(0, 0, sheet, i, slack);
+        return host.hasItems(sheet, i, school.shadows) ? countGifts(0, 0, sheet, i, slack) : OUTSIDE;
     }
 
     /** FEWEST; the FIRST SEATING in so many rooms stays in the chairs. */
@@ -1474,6 +1469,11 @@ public final class ShadowSchool {
 
         boolean hasItem(int sheet, int i) {
             return i >= 0 && i < sizes[sheet];
+        }
+
+        /** Even where none is asked for, they must begin within the row or right at its end. */
+        boolean hasItems(int sheet, int from, int n) {
+            return from >= 0 && from <= sizes[sheet] - n;
         }
 
         /** 0: a SHEET can be taken for a sort. */

@@ -705,11 +705,11 @@ final class Model {
         }
         byte[] row = (byte[]) o;
         int m = w.pupils.size();
+        if (i < 0 || (long) i + m > row.length) {
+            return -12;
+        }
         List<Integer> given = new ArrayList<>();
         for (int k = 0; k < m; k++) {
-            if (i < 0 || (long) i + k >= row.length) {
-                return -12;
-            }
             given.add((int) row[i + k]);
         }
         return gifts(0, given, slack);

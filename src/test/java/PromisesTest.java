@@ -931,6 +931,17 @@ public final class PromisesTest {
         bytes(x, 0, 7);
         due("nobody", x.match(0, 0, 0), 1);
         due("missing, nobody", x.match(1, 0, 0), -11);
+        due("nobody, at the end", x.match(0, 1, 0), 1);
+        for (int b : new int[] {-1, 2, 40, MIN, MAX}) {
+            due("nobody, outside", x.match(0, b, 0), -12);
+        }
+        x.sheet(2, 0, 0);
+        due("nobody, no items", x.match(2, 0, 0), 1);
+        due("nobody, no items, outside", x.match(2, 1, 0), -12);
+        x.sheet(2, 1, 0);
+        due("nobody, shorts, outside", x.match(2, 1, 0), -13);
+        due("nobody, missing, outside", x.match(1, 9, 0), -11);
+        x.sheet(2, -1, 0);
         x.shadow(1, 1, 1);
         x.shadow(2, 1, 2);
         x.shadow(4, 1, 2);

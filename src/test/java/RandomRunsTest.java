@@ -69,6 +69,8 @@ public final class RandomRunsTest {
 
     private final Random random;
     private final long run;
+    /** There are no SHADOWS for long, as calls have edges there that a full school never shows. */
+    private final boolean startsEmpty;
     private final ShadowSchool program = new ShadowSchool();
     private final Model model = new Model();
     private final List<String> log = new ArrayList<>();
@@ -76,6 +78,7 @@ public final class RandomRunsTest {
 
     private RandomRunsTest(long run) {
         this.run = run;
+        this.startsEmpty = run % 5 == 0;
         this.random = new Random(run);
     }
 
@@ -108,7 +111,8 @@ public final class RandomRunsTest {
     private boolean goes(List<Method> methods) throws Exception {
         int calls = 0;
         while (calls < 512) {
-            Method m = calls < 14 ? opening(methods) : methods.get(random.nextInt(methods.size()));
+            boolean opens = calls < 14 && !startsEmpty;
+            Method m = opens ? opening(methods) : methods.get(random.nextInt(methods.size()));
             if (!feeds.isEmpty()) {
                 m = named(methods, feeds.peek().length == 2 ? "feed" : "rules");
             } else if (m.getName().equals("feed") || m.getName().equals("rules")) {
@@ -118,6 +122,8 @@ public final class RandomRunsTest {
                 if (random.nextInt(3) != 0) {
                     continue;
                 }
+            } else if (m.getName().equals("shadow") && startsEmpty && calls < 300) {
+                continue;
             }
             calls++;
             if (!sameAnswer(m, feeds.isEmpty() ? argumentsFor(m) : feeds.poll())) {
