@@ -1162,8 +1162,10 @@ public final class PromisesTest {
         ShadowSchool x = plansFor();
         due("one", x.play(1), 1);
         due("two", x.play(2), 1);
-        x.sheet(0, 0, 4);
         for (int n = 1; n <= 4; n++) {
+            // One object for each, as it is good for 512 calls alone.
+            x = plansFor();
+            x.sheet(0, 0, 4);
             int value = valueBehind(x, 0, n);
             int least = 0;
             for (int a = 2; a >= 0; a--) {
