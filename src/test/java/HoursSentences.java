@@ -184,6 +184,12 @@ final class HoursSentences extends Sentences {
         due("4 less 1, 4, 3", x.shadowOf(0, 5), 0);
         x.hour();
         due("4 less 2, 4, 3", x.shadowOf(0, 5), 0);
+        x = steady(1);
+        for (int l = 0; l < 8; l++) {
+            x.lesson(20 - l, -1, 0, 15, 1);
+        }
+        read(x, "shadow easy;");
+        due("the eighth of eight", x.shadowOf(0, 5), 7);
     }
 
     static void byPlay() {

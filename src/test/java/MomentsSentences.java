@@ -66,6 +66,10 @@ final class MomentsSentences extends Sentences {
         due("nothing is longer", reported(1, 9, 406, 999).span(0), 0);
         due("no HOUR 16", reported(1, 9, 450, 450).span(0), 0);
         due("no SLANT 6", reported(1, 9, 486, 486).span(0), 0);
+        // Both would be so in HOUR 16 with SLANT 1 alone.
+        due("no HOUR 16, of how many", reported(1, 1, 10, 10, 4, 1, 9, 9).span(0), 0);
+        due("no HOUR 16, of which", reported(1, 1, 10, 10, 4, 1, 9, 9).span(1), NONE);
+        due("no HOUR 16, of a LIAR", reported(1, 1, 10, 10, 4, 1, 9, 9).liar(), 0);
         due("HOUR 0 and SLANT 5", reported(4, 9, 315, 315).span(1), 0);
         due("no SLANT 0", reported(5, 9, 0, 2).span(0), 0);
         // In HOUR 7, where slow is 0 long, borrowed is 3 long, times 1 to 5.

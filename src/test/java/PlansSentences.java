@@ -104,6 +104,11 @@ final class PlansSentences extends Sentences {
         for (int i = 0; i < 4; i++) {
             due("all alike, " + i, idle(6).ith(4, i), 0);
         }
+        // What was asked ahead leaves nothing behind.
+        x = narrow();
+        due("1 is the best", x.ith(1, 0), 1);
+        x.change(1, 1, 1);
+        due("all are alike now", x.ith(1, 0), 0);
     }
 
     static void taughtBySome() {
@@ -199,6 +204,15 @@ final class PlansSentences extends Sentences {
         due("LEARN at once, then it is SENT OUT", x.game(2), 5);
         x.lesson(5, 0, 2, 2, 1);
         due("and comes back", x.game(3), 10);
+        // Two LEARN in each HOUR; the other one can send but one of them out.
+        x = alike(2, 4, 9, 1);
+        for (int l = 0; l < 8; l++) {
+            x.lesson(5, -1, 0, 15, 6);
+        }
+        int[] want = {10, 15, 25, 30};
+        for (int n = 1; n <= 4; n++) {
+            due("both and one, of " + n, x.game(n), want[n - 1]);
+        }
     }
 
     static void rowsOfTheFirst() {
@@ -392,10 +406,13 @@ final class PlansSentences extends Sentences {
     static void bars() {
         of(33, "BAR likewise.");
         int[] want = {0, 1, NONE, NONE, NONE};
+        ShadowSchool again = narrow();
         for (int n = 0; n <= 4; n++) {
             due("by " + n, narrow().bars(n, 3), want[n]);
             due("OVER, by " + n, narrowOver().bars(n, 3), 0);
         }
+        due("by four", again.bars(4, 3), NONE);
+        due("by none, asked then", again.bars(0, 3), 0);
         ShadowSchool x = narrow();
         bytes(x, 0, 1);
         x.goAll(0, 0, 1);

@@ -1,10 +1,5 @@
-import java.nio.charset.StandardCharsets;
-
 /** For each promise of the document what it asks: ordinary calls, the edges it names, and wrong numbers. */
-public final class PromisesTest {
-    private static final int BAD = -1, FULL = -2, NONE = -3, STATE = -4;
-    private static final int MIN = Integer.MIN_VALUE, MAX = Integer.MAX_VALUE;
-
+public final class PromisesTest extends Calls {
     private static int wrong = 0;
     private static int promise = 0;
 
@@ -15,42 +10,11 @@ public final class PromisesTest {
         }
     }
 
-    /** Feeds a text and reads it. */
-    private static int read(ShadowSchool x, String text) {
-        byte[] b = text.getBytes(StandardCharsets.ISO_8859_1);
-        for (int at = 0; at < b.length; at += 8) {
-            long eight = 0;
-            int n = Math.min(8, b.length - at);
-            for (int k = n - 1; k >= 0; k--) {
-                eight = eight << 8 | b[at + k] & 255;
-            }
-            x.feed(eight, n);
-        }
-        return x.rules();
-    }
-
     private static void fault(String text, int place) {
         ShadowSchool x = new ShadowSchool();
         due("'" + text + "'", read(x, text), -100 - place);
         due("RULES behind '" + text + "'", x.many(1), 0);
         due("THE TAPE behind '" + text + "'", x.many(5), 0);
-    }
-
-    /** A sheet of bytes. */
-    private static void bytes(ShadowSchool x, int sheet, int... items) {
-        x.sheet(sheet, 0, items.length);
-        for (int i = 0; i < items.length; i++) {
-            x.write(sheet, i, items[i]);
-        }
-    }
-
-    /** One of each KIND 1 to 5, in this order, each with a QUICK and a TALL. */
-    private static ShadowSchool ofEach(int quick, int tall) {
-        ShadowSchool x = new ShadowSchool();
-        for (int kind = 1; kind <= 5; kind++) {
-            x.shadow(kind, quick, tall);
-        }
-        return x;
     }
 
     /** SHADOWS 0 and 1 (joined, QUICK 3 and 2) for one place in a LESSON of 6, behind which is one of 4 for all. */
@@ -61,12 +25,6 @@ public final class PromisesTest {
         x.lesson(6, -1, 0, 15, 1);
         x.lesson(4, 0, 0, 15, 6);
         return x;
-    }
-
-    private static void pass(ShadowSchool x, int hours) {
-        for (int k = 0; k < hours; k++) {
-            x.hour();
-        }
     }
 
     private static void newObject() {

@@ -49,6 +49,8 @@ final class RulesSentences extends Sentences {
         reads("slow if 1=1" + " and 1=1".repeat(22) + " ".repeat(8) + "last;", 1);
         reads(" ".repeat(190) + "slow last;", 1);
         fault(" ".repeat(190) + "slow last!", 199);
+        fault(";".repeat(200), 0);
+        fault("slow if(" + "(".repeat(192), 10);
         fault(" ".repeat(191) + "slow last", 200);
     }
 
@@ -144,6 +146,9 @@ final class RulesSentences extends Sentences {
         holds("1=2 or 1=1 and 1=1 or 1=2", true);
         holds("1=2 or ".repeat(20) + "1=1", true);
         holds("1=2 or ".repeat(20) + "1=2", false);
+        holds("1=2or".repeat(36) + "1=1", true);
+        holds("1=2or".repeat(36) + "1=2", false);
+        holds("1=1or" + "1=2or".repeat(35) + "1=2", true);
         fault("slow if or 1=1 last;", 8);
         fault("slow if 1=1 or last;", 15);
         fault("slow if 1=1 or or 1=1 last;", 15);
@@ -158,6 +163,8 @@ final class RulesSentences extends Sentences {
         holds("1=1 and 1=1 and 1=2", false);
         holds("1=1 and ".repeat(20) + "1=1", true);
         holds("1=1 and ".repeat(20) + "1=2", false);
+        holds("1=1and".repeat(30) + "1=1", true);
+        holds("1=1and".repeat(30) + "1=2", false);
         fault("slow if and 1=1 last;", 8);
         fault("slow if 1=1 and last;", 16);
         fault("slow if 1=1 and and 1=1 last;", 16);
@@ -451,6 +458,16 @@ final class RulesSentences extends Sentences {
         due("nothing is left of that one", x.shadowOf(0, 5), 0);
         due("none", read(x, ""), 0);
         due("there are none", x.many(1), 0);
+        // Long ones, with a FAULT and without, leave nothing behind.
+        for (int k = 0; k < 5; k++) {
+            due("a long one", read(x, "joined if " + "1=2or".repeat(36) + "1=2play;"), 1);
+            due("it doesn't hold", x.shadowOf(0, 5), 0);
+            due("a long one that must go on", read(x, "joined if " + "1=1or".repeat(36) + "1=1play"), -297);
+            due("a short one", read(x, "joined if 3=3 play;"), 1);
+            due("that holds", x.shadowOf(0, 5), 8);
+            due("another short one", read(x, "joined if 3=4 play;"), 1);
+            due("that doesn't hold", x.shadowOf(0, 5), 0);
+        }
     }
 
     static void rulesWithAFault() {

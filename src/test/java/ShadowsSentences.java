@@ -520,6 +520,13 @@ final class ShadowsSentences extends Sentences {
         pass(x, 4);
         due("all six have", x.lessonOf(0, 5), 6);
         due("none the second", x.lessonOf(1, 5), 0);
+        x = alike(2, 4, 1, 1);
+        for (int l = 0; l < 8; l++) {
+            x.lesson(1, -1, l == 7 ? 0 : 9, 15, 6);
+        }
+        x.hour();
+        due("both the eighth", x.lessonOf(7, 5), 2);
+        due("none the seventh", x.lessonOf(6, 5), 0);
     }
 
     static void lessonOfBad() {
