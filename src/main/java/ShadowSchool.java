@@ -643,11 +643,23 @@ public final class ShadowSchool {
 
     public int act(int shelf, int act, int x) {
         host.clearTrace();
-        if (!host.isShelf(shelf) || !isWithin(act, 0, 3)) {
+        int p = host.isShelf(shelf) ? host.shadowOn(shelf) : -1;
+        if (!school.isShadow(p)) {
             return 0;
         }
-        int p = host.shadowOn(shelf);
-        return school.isShadow(p) ? host.perform(school.thing(p), p, school.quick[p], act, x) : 0;
+        host.number = p;
+        host.quick = school.quick[p];
+        Shade thing = school.thing(p);
+        int answer = 0;
+        // The bodies go seven deep by themselves, so nothing may stand between them and this call.
+        switch (act) {
+            case 0: answer = thing.lies(host, x); break;
+            case 1: answer = thing.turns(host, x); break;
+            case 2: answer = thing.folds(host, x); break;
+            case 3: answer = thing.asks(host, x); break;
+            default:
+        }
+        return host.isParted ? BY_0 : answer;
     }
 
     public int trace(int i) {
@@ -982,8 +994,8 @@ public final class ShadowSchool {
 
     /** THE RULES; conditions as steps on a stack of bits, ahead of which what they join stands. */
     private static final class Rules {
-        /** The first three are the signs, as their bytes come and as compare() answers, and 1. */
-        static final int LESS = 0, MORE = 2, AND = 3, OR = 4, NOT = 5;
+        /** The first three are the signs, as their bytes come. */
+        static final int LESS = 0, SAME = 1, MORE = 2, AND = 3, OR = 4, NOT = 5;
         /** A step comes from 2 bytes or more. */
         static final int MOST_STEPS = MOST_BYTES / 2;
         static final int FACTS = 5;
@@ -1080,7 +1092,9 @@ public final class ShadowSchool {
                     case OR: bits = bits >> 2 << 1 | under | top; break;
                     case NOT: bits ^= 1; break;
                     default:
-                        int sign = Integer.compare(values[lefts[s]], values[rights[s]]) + 1;
+                        int left = values[lefts[s]];
+                        int right = values[rights[s]];
+                        int sign = left < right ? LESS : left > right ? MORE : SAME;
                         bits = bits << 1 | (sign == steps[s] ? 1 : 0);
                 }
             }
@@ -1521,22 +1535,6 @@ public final class ShadowSchool {
         void clearTrace() {
             bodyCount = 0;
             isParted = false;
-        }
-
-        int perform(Shade thing, int p, int howQuick, int act, int x) {
-            number = p;
-            quick = howQuick;
-            int answer = actOf(thing, act, x);
-            return isParted ? BY_0 : answer;
-        }
-
-        private int actOf(Shade thing, int act, int x) {
-            switch (act) {
-                case 0: return thing.lies(this, x);
-                case 1: return thing.turns(this, x);
-                case 2: return thing.folds(this, x);
-                default: return thing.asks(this, x);
-            }
         }
 
         /** Behind a parting by 0 nothing counts as run: its answer is all there is. */
